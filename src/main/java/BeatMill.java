@@ -369,7 +369,10 @@ public final class BeatMill {
         return made.search.beyond ? null : made.search;
     }
 
-    /** THE TAPE token by token. A fault sticks and breaks the token, so that all that reads unwinds. */
+    /**
+     * THE TAPE token by token: cut into tokens up to the first that is none, which is a FAULT only when it is come to.
+     * A FAULT sticks and breaks the token that stands, so that all that reads unwinds.
+     */
     private static final class Tokens {
         static final int BROKEN = 0, FINISH = 1, NAME = 2, NUMBER = 3, COLON = 4, BECOMES = 5, BESIDE = 6;
         static final int EQUAL = 7, UNEQUAL = 8, LESS = 9, AT_MOST = 10, GREATER = 11, AT_LEAST = 12;
@@ -393,11 +396,15 @@ public final class BeatMill {
         private final long[] keys;
         private int length;
         private int at;
+        private final int[] kinds = new int[TAPE_BYTES + 1];
+        private final int[] places = new int[TAPE_BYTES + 1];
+        /** The letters of a WORD, or a NUMBER. */
+        private final long[] contents = new long[TAPE_BYTES + 1];
+        private int coming;
         private int open;
         int kind;
         int place;
-        long word;
-        int number;
+        long content;
         int fault;
         int faultPlace;
 
@@ -417,32 +424,48 @@ public final class BeatMill {
         void begin(int bytes) {
             length = Math.min(bytes, tape.length);
             at = 0;
+            int last = -1;
+            for (int i = 0; i < kinds.length && last != FINISH && last != BROKEN; i++) {
+                last = cut(i);
+            }
+            coming = 0;
             open = 0;
             fault = 0;
             faultPlace = 0;
             advance();
         }
 
-        void advance() {
-            if (fault != 0) {
-                return;
-            }
+        /** Cuts the next token off the text: its kind. */
+        private int cut(int i) {
             while (at < length && (byteAt(at) == ' ' || byteAt(at) == '\n')) {
                 at++;
             }
-            place = at;
+            places[i] = at;
             int first = byteAt(at);
             if (at >= length) {
-                kind = FINISH;
+                kinds[i] = FINISH;
             } else if (isLetter(first)) {
-                readWord();
+                cutWord(i);
             } else if (isFigure(first)) {
-                readNumber();
+                cutNumber(i);
             } else {
-                readSign(first);
+                kinds[i] = signKind(first);
             }
+            return kinds[i];
+        }
+
+        /** Takes the token that stands and reads the next one. */
+        void advance() {
+            if (fault != 0 || coming >= kinds.length) {
+                return;
+            }
+            kind = kinds[coming];
+            place = places[coming];
+            content = contents[coming];
+            coming++;
             if (kind == BROKEN) {
-                fail(NO_TOKEN);
+                fault = NO_TOKEN;
+                faultPlace = place;
             }
         }
 
@@ -463,15 +486,16 @@ public final class BeatMill {
         }
 
         void fail(int code) {
-            failAt(code, place);
+            if (fault == 0) {
+                fault = code;
+                faultPlace = place;
+            }
+            kind = BROKEN;
         }
 
         void failAt(int code, int where) {
-            if (fault == 0) {
-                fault = code;
-                faultPlace = where;
-            }
-            kind = BROKEN;
+            place = where;
+            fail(code);
         }
 
         /** The token that stands now opens something; it is left for the caller to take. */
@@ -487,7 +511,7 @@ public final class BeatMill {
             open--;
         }
 
-        private void readWord() {
+        private void cutWord(int i) {
             long code = 0;
             int letters = 0;
             while (at < length && isLetter(byteAt(at))) {
@@ -495,52 +519,57 @@ public final class BeatMill {
                 letters++;
                 at++;
             }
-            word = code;
-            kind = letters > MOST_LETTERS ? BROKEN : NAME;
-            for (int key = 0; key < KEY_COUNT && kind == NAME; key++) {
+            contents[i] = code;
+            kinds[i] = letters > MOST_LETTERS ? BROKEN : NAME;
+            for (int key = 0; key < KEY_COUNT && kinds[i] == NAME; key++) {
                 if (keys[key] == code) {
-                    kind = INPUT + key;
+                    kinds[i] = INPUT + key;
                 }
             }
         }
 
-        private void readNumber() {
+        private void cutNumber(int i) {
+            long number = 0;
             int figures = 0;
-            number = 0;
             while (at < length && isFigure(byteAt(at))) {
                 number = number * 10 + byteAt(at) - '0';
                 figures++;
                 at++;
             }
-            kind = figures > MOST_FIGURES ? BROKEN : NUMBER;
+            contents[i] = number;
+            kinds[i] = figures > MOST_FIGURES ? BROKEN : NUMBER;
         }
 
-        private void readSign(int first) {
+        private int signKind(int first) {
             at++;
-            boolean equals = byteAt(at) == '=';
             int single = SIGNS.indexOf((char) first);
             if (single >= 0) {
-                kind = SEMICOLON + single;
-            } else if (first == ':') {
-                readPair(equals, BECOMES, COLON);
-            } else if (first == '=') {
-                kind = EQUAL;
-            } else if (first == '!') {
-                readPair(equals, UNEQUAL, BROKEN);
-            } else if (first == '<') {
-                readPair(equals, AT_MOST, LESS);
-            } else if (first == '>') {
-                readPair(equals, AT_LEAST, GREATER);
-            } else {
-                readPair(first == '|' && byteAt(at) == '|', BESIDE, BROKEN);
+                return SEMICOLON + single;
+            }
+            switch (first) {
+                case ':':
+                    return withNext('=', BECOMES, COLON);
+                case '=':
+                    return EQUAL;
+                case '!':
+                    return withNext('=', UNEQUAL, BROKEN);
+                case '<':
+                    return withNext('=', AT_MOST, LESS);
+                case '>':
+                    return withNext('=', AT_LEAST, GREATER);
+                case '|':
+                    return withNext('|', BESIDE, BROKEN);
+                default:
+                    return BROKEN;
             }
         }
 
-        private void readPair(boolean paired, int pair, int alone) {
-            if (paired) {
-                at++;
+        private int withNext(int second, int pair, int alone) {
+            if (byteAt(at) != second) {
+                return alone;
             }
-            kind = paired ? pair : alone;
+            at++;
+            return pair;
         }
 
         private int byteAt(int i) {
@@ -746,7 +775,7 @@ public final class BeatMill {
                 return;
             }
             int signal = made.signals;
-            made.addSignal(tokens.word, role);
+            made.addSignal(tokens.content, role);
             tokens.advance();
             if (tokens.accept(Tokens.COLON)) {
                 int mix = tokens.kind;
@@ -766,12 +795,12 @@ public final class BeatMill {
                 return;
             }
             int variable = made.variables;
-            made.addVariable(tokens.word);
+            made.addVariable(tokens.content);
             tokens.advance();
             tokens.expect(Tokens.BECOMES);
             boolean negative = tokens.accept(Tokens.MINUS);
             if (tokens.kind == Tokens.NUMBER) {
-                made.beginning[variable] = negative ? -tokens.number : tokens.number;
+                made.beginning[variable] = (int) (negative ? -tokens.content : tokens.content);
             }
             tokens.expect(Tokens.NUMBER);
         }
@@ -779,7 +808,7 @@ public final class BeatMill {
         private void checkNewName(int role) {
             if (tokens.kind != Tokens.NAME) {
                 tokens.fail(Tokens.MISPLACED);
-            } else if (made.isTold(tokens.word)) {
+            } else if (made.isTold(tokens.content)) {
                 tokens.fail(Tokens.TOLD_BEFORE);
             } else if (made.isFullFor(role)) {
                 tokens.fail(Tokens.TOO_MANY);
@@ -805,14 +834,13 @@ public final class BeatMill {
             made.parts.add(part);
             made.depth = Math.max(made.depth, depth);
             begunPauses += pausesOf(kind);
-            boolean around = staysOpen(kind);
-            if (around) {
+            if (staysOpen(kind)) {
                 tokens.opens();
             }
-            long word = tokens.word;
+            long word = tokens.content;
             tokens.advance();
-            part.node = around ? readAround(kind, part, depth) : readAlone(kind, part, word);
-            if (around) {
+            part.node = kind == Tokens.NAME ? readAssign(part, word) : readBody(kind, part, depth);
+            if (staysOpen(kind)) {
                 tokens.closes();
             }
             return part.node;
@@ -820,7 +848,7 @@ public final class BeatMill {
 
         private void checkBegin(int kind) {
             if (kind == Tokens.NAME) {
-                if (made.variableNamed(tokens.word) == NONE) {
+                if (made.variableNamed(tokens.content) == NONE) {
                     tokens.fail(Tokens.NOT_TOLD);
                 }
             } else if (!staysOpen(kind) && !standsAlone(kind)) {
@@ -868,7 +896,8 @@ public final class BeatMill {
             }
         }
 
-        private int readAlone(int kind, Part part, long word) {
+        /** What stands behind the first token of a part. */
+        private int readBody(int kind, Part part, int depth) {
             switch (kind) {
                 case Tokens.PAUSE:
                     return tree.pauseNode();
@@ -878,24 +907,13 @@ public final class BeatMill {
                     return readEmit(part);
                 case Tokens.SUSTAIN:
                     return readSustain();
-                case Tokens.AWAIT:
-                    boolean immediate = tokens.accept(Tokens.IMMEDIATE);
-                    return tree.await(readCondition(), immediate);
-                case Tokens.EXIT:
-                    return readExit();
-                case Tokens.NAME:
-                    return readAssign(part, word);
-                default:
-                    return tree.make(Tree.NOTHING);
-            }
-        }
-
-        private int readAround(int kind, Part part, int depth) {
-            switch (kind) {
                 case Tokens.LOOP:
                     return readLoop(part, depth);
                 case Tokens.PRESENT:
                     return readChoice(readCondition(), depth);
+                case Tokens.AWAIT:
+                    boolean immediate = tokens.accept(Tokens.IMMEDIATE);
+                    return tree.await(readCondition(), immediate);
                 case Tokens.ABORT:
                     return readAbort(depth);
                 case Tokens.WEAK:
@@ -906,10 +924,14 @@ public final class BeatMill {
                     return readEvery(depth);
                 case Tokens.TRAP:
                     return readTrap(depth);
+                case Tokens.EXIT:
+                    return readExit();
                 case Tokens.IF:
                     return readChoice(readComparison(part), depth);
-                default:
+                case Tokens.LEFT_SQUARE:
                     return readBranches(part, depth);
+                default:
+                    return tree.make(Tree.NOTHING);
             }
         }
 
@@ -926,9 +948,9 @@ public final class BeatMill {
             } else if (numbered) {
                 part.task = Part.EMIT;
                 part.target = signal;
-                part.sum = made.sums.begin();
+                part.sum = made.sums.length;
                 readInBrackets();
-                made.sums.finish();
+                made.sums.add(Sums.STOP);
             }
             return tree.emit(signal);
         }
@@ -961,7 +983,7 @@ public final class BeatMill {
                 tokens.fail(Tokens.MISPLACED);
                 return NONE;
             }
-            int signal = made.signalNamed(tokens.word);
+            int signal = made.signalNamed(tokens.content);
             if (signal == NONE) {
                 tokens.fail(Tokens.NOT_TOLD);
             }
@@ -973,7 +995,7 @@ public final class BeatMill {
                 tokens.fail(Tokens.MISPLACED);
                 return Tree.MISSING;
             }
-            int within = trapsWithin(tokens.word);
+            int within = trapsWithin(tokens.content);
             if (within == NONE) {
                 tokens.fail(Tokens.NOT_TOLD);
                 return Tree.MISSING;
@@ -998,7 +1020,9 @@ public final class BeatMill {
             part.target = variable;
             given |= 1 << variable;
             tokens.expect(Tokens.BECOMES);
-            part.sum = readWholeSum();
+            part.sum = made.sums.length;
+            readSum();
+            made.sums.add(Sums.STOP);
             return tree.make(Tree.NOTHING);
         }
 
@@ -1025,7 +1049,8 @@ public final class BeatMill {
             boolean immediate = tokens.accept(Tokens.IMMEDIATE);
             int condition = readCondition();
             tokens.expect(Tokens.END);
-            return immediate ? tree.abortNow(seq, condition) : tree.abort(seq, condition);
+            int aborting = tree.abort(seq, condition);
+            return immediate ? tree.choice(condition, tree.make(Tree.NOTHING), aborting) : aborting;
         }
 
         private int readWeak(int depth) {
@@ -1059,7 +1084,7 @@ public final class BeatMill {
         }
 
         private int readTrap(int depth) {
-            long name = tokens.word;
+            long name = tokens.content;
             if (tokens.kind != Tokens.NAME) {
                 tokens.fail(Tokens.MISPLACED);
             } else if (made.isTold(name) || trapsWithin(name) != NONE) {
@@ -1159,21 +1184,18 @@ public final class BeatMill {
             part.task = Part.IF;
             part.target = made.ifs;
             made.ifs++;
-            part.sum = readWholeSum();
+            part.sum = made.sums.length;
+            readSum();
+            made.sums.add(Sums.STOP);
             part.relation = tokens.kind;
             if (tokens.kind < Tokens.EQUAL || tokens.kind > Tokens.AT_LEAST) {
                 tokens.fail(Tokens.MISPLACED);
             }
             tokens.advance();
-            part.otherSum = readWholeSum();
-            return made.circuit.addIf();
-        }
-
-        private int readWholeSum() {
-            int start = made.sums.begin();
+            part.otherSum = made.sums.length;
             readSum();
-            made.sums.finish();
-            return start;
+            made.sums.add(Sums.STOP);
+            return made.circuit.addIf();
         }
 
         private void readInBrackets() {
@@ -1215,15 +1237,19 @@ public final class BeatMill {
         private void readOne() {
             switch (tokens.kind) {
                 case Tokens.NUMBER:
-                    made.sums.addWith(Sums.NUMBER, tokens.number);
+                    made.sums.addWith(Sums.NUMBER, (int) tokens.content);
                     tokens.advance();
                     break;
                 case Tokens.NAME:
-                    readUse();
+                    int variable = usedVariable();
+                    made.sums.addWith(Sums.VARIABLE, variable);
+                    tokens.advance();
                     break;
                 case Tokens.ASK:
                     tokens.advance();
-                    readAsk();
+                    int signal = askedSignal();
+                    made.sums.addWith(Sums.SIGNAL, signal);
+                    tokens.advance();
                     break;
                 case Tokens.MINUS:
                     tokens.opens();
@@ -1242,27 +1268,22 @@ public final class BeatMill {
             }
         }
 
-        private void readUse() {
-            int variable = made.variableNamed(tokens.word);
+        private int usedVariable() {
+            int variable = made.variableNamed(tokens.content);
             if (variable == NONE) {
                 tokens.fail(Tokens.NOT_TOLD);
-                return;
+                return NONE;
             }
             used |= 1 << variable;
-            made.sums.addWith(Sums.VARIABLE, variable);
-            tokens.advance();
+            return variable;
         }
 
-        private void readAsk() {
+        private int askedSignal() {
             int signal = toldSignal();
-            if (signal == NONE) {
-                return;
-            }
-            if (made.mix[signal] == 0) {
+            if (signal != NONE && made.mix[signal] == 0) {
                 tokens.fail(Tokens.NOT_TOLD);
             }
-            made.sums.addWith(Sums.SIGNAL, signal);
-            tokens.advance();
+            return signal;
         }
     }
 
@@ -1320,34 +1341,36 @@ public final class BeatMill {
             if (above == MISSING || child == MISSING) {
                 return;
             }
-            atOnce[above] = codesWith(above, atOnce[child]);
+            int had = atOnce[above];
+            int added = atOnce[child];
+            boolean isFirst = first[above] == MISSING;
+            switch (kind[above]) {
+                case SEQ:
+                    atOnce[above] = (had & 1) == 0 ? had : had & ~1 | added;
+                    break;
+                case LOOP:
+                    atOnce[above] = added & ~1;
+                    break;
+                case PAR:
+                    // of each choice the greater one: none is below the least of each branch
+                    int least = Math.max(Integer.lowestOneBit(had), Integer.lowestOneBit(added));
+                    int greater = had == 0 || added == 0 ? 0 : (had | added) & -least;
+                    atOnce[above] = isFirst ? added : greater;
+                    break;
+                case TRAP:
+                    atOnce[above] = added & 3 | added >>> 2 & 1 | added >>> 1 & ~3;
+                    break;
+                default:
+                    atOnce[above] = had | added;
+            }
             held[above] |= held[child];
             parent[child] = above;
-            if (first[above] == MISSING) {
+            if (isFirst) {
                 first[above] = child;
             } else {
                 next[last[above]] = child;
             }
             last[above] = child;
-        }
-
-        private int codesWith(int above, int added) {
-            int had = atOnce[above];
-            switch (kind[above]) {
-                case SEQ:
-                    return (had & 1) == 0 ? had : had & ~1 | added;
-                case LOOP:
-                    return added & ~1;
-                case PAR:
-                    // of each choice the greater one: none is below the least of each branch
-                    int least = Math.max(Integer.lowestOneBit(had), Integer.lowestOneBit(added));
-                    int greater = had == 0 || added == 0 ? 0 : (had | added) & -least;
-                    return first[above] == MISSING ? added : greater;
-                case TRAP:
-                    return added & 3 | added >>> 2 & 1 | added >>> 1 & ~3;
-                default:
-                    return had | added;
-            }
         }
 
         boolean canEndAtOnce(int node) {
@@ -1427,11 +1450,6 @@ public final class BeatMill {
             return weak(suspend(body, looksAt), looksAt, false);
         }
 
-        int abortNow(int body, int looksAt) {
-            int nothing = make(NOTHING);
-            return choice(looksAt, nothing, abort(body, looksAt));
-        }
-
         int weak(int body, int looksAt, boolean immediate) {
             int working = pair(SEQ, body, exit(0));
             return wrap(TRAP, pair(PAR, working, watch(looksAt, immediate)));
@@ -1460,14 +1478,41 @@ public final class BeatMill {
         }
 
         void weave(Compiled made) {
-            int root = made.root;
-            circuit = made.circuit;
+            int node = made.root;
+            begin(made.circuit, node);
+            boolean inward = true;
+            for (int step = 0; step < 2 * Tree.MOST_NODES && node != Tree.MISSING; step++) {
+                int goesTo;
+                if (inward) {
+                    enter(node);
+                    goesTo = tree.first[node];
+                } else {
+                    if (tree.kind[node] == Tree.PAR) {
+                        joinBranches(node);
+                    }
+                    leave(node);
+                    goesTo = tree.next[node];
+                    node = goesTo == Tree.MISSING ? tree.parent[node] : node;
+                }
+                inward = goesTo != Tree.MISSING;
+                if (inward) {
+                    node = goesTo;
+                    arrive(node);
+                }
+            }
+            finish(made);
+        }
+
+        private void begin(Circuit into, int root) {
+            circuit = into;
             go[root] = circuit.first;
             res[root] = Circuit.not(circuit.first);
             susp[root] = Circuit.NO;
             kill[root] = Circuit.NO;
-            goAround(root);
-            circuit.ended = k[root * CODES];
+        }
+
+        private void finish(Compiled made) {
+            circuit.ended = k[made.root * CODES];
             for (int s = 0; s < made.signals; s++) {
                 if (made.role[s] != Tokens.INPUT) {
                     circuit.close(circuit.signal[s], circuit.emitted[s]);
@@ -1485,33 +1530,6 @@ public final class BeatMill {
             part.ends = k[node * CODES];
             part.pauses = k[node * CODES + 1];
             part.exits = k[node * CODES + 2];
-        }
-
-        private void goAround(int root) {
-            int node = root;
-            boolean inward = true;
-            for (int step = 0; step < 2 * Tree.MOST_NODES && node != Tree.MISSING; step++) {
-                if (inward) {
-                    enter(node);
-                    inward = tree.first[node] != Tree.MISSING;
-                    if (inward) {
-                        node = tree.first[node];
-                        arrive(node);
-                    }
-                    continue;
-                }
-                if (tree.kind[node] == Tree.PAR) {
-                    joinBranches(node);
-                }
-                leave(node);
-                inward = tree.next[node] != Tree.MISSING;
-                if (inward) {
-                    node = tree.next[node];
-                    arrive(node);
-                } else {
-                    node = tree.parent[node];
-                }
-            }
         }
 
         private void arrive(int node) {
@@ -1895,19 +1913,11 @@ public final class BeatMill {
         private static final int STACK_ROOM = 64;
 
         private int[] code = new int[16];
-        private int length;
+        int length;
         private final long[] stack = new long[STACK_ROOM];
         private int height;
         /** Why the latest sum could not be worked, 0 if it could. */
         int failure;
-
-        int begin() {
-            return length;
-        }
-
-        void finish() {
-            add(STOP);
-        }
 
         void add(int operation) {
             if (length == code.length) {
