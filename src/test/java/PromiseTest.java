@@ -199,6 +199,9 @@ public final class PromiseTest {
     faulty("emit 5", 5, 2);
     faulty("emit", 4, 2);
     faulty("exit pause", 5, 2);
+    faulty("trap t in exit ;pause end", 15, 2);
+    faulty("output x;emit ;pause", 14, 2);
+    faulty("input a;await ;pause", 14, 2);
     faulty("trap in in pause end", 5, 2);
     faulty("nothing;input a;pause", 8, 2);
     faulty("immediate", 0, 2);
@@ -219,6 +222,15 @@ public final class PromiseTest {
     faulty("if 1!= =2 then pause end", 7, 2);
     faulty("input a;suspend pause when immediate a end", 27, 2);
     faulty("input a;every a pause end", 16, 2);
+    section = "promise 5, a full tape of tokens";
+    faulty(times(800, ";"), 0, 2);
+    faulty("nothing" + times(793, ";"), 8, 2);
+    faulty(times(799, " ") + ".", 799, 1);
+    faulty(times(800, "a"), 0, 1);
+    faulty(times(800, "9"), 0, 1);
+    fine(times(793, " ") + "nothing");
+    faulty("var v:=0;v:=1" + times(393, "+1") + "+", 800, 2);
+    fine("var v:=0;v:=1" + times(393, "+1") + " ");
   }
 
   private static void promise5names() {
@@ -312,6 +324,20 @@ public final class PromiseTest {
   }
 
   private static void promise5late() {
+    section = "promise 5, what is open does not outlive a fault";
+    BeatMill x = new BeatMill();
+    String[] broken = {times(16, "["), "[[[", "input a;await not not (", "var v:=0;v:=-(", "trap t in trap u in exit v", "loop nothing end"};
+    for (int i = 0; i < 12; i++) {
+      write(x, broken[i % 6]);
+      due("compile() of a broken text", x.compile() <= -10 ? 1 : 0, 1);
+    }
+    write(x, "trap t in exit u end");
+    due("traps of a broken text are gone", x.compile(), -25);
+    write(x, times(16, "["));
+    due("fifteen may be open", x.compile(), -25);
+    due("fault()", x.fault(), 6);
+    write(x, times(15, "[") + "nothing" + times(15, "]"));
+    due("fifteen may be open", x.compile(), 0);
     section = "promise 5, faults 7 and 8";
     faulty("loop nothing end", 0, 7);
     faulty("nothing;loop nothing end", 8, 7);
@@ -345,6 +371,8 @@ public final class PromiseTest {
     faulty("var v:=0;[nothing||v:=1||loop if v=1 then halt else halt end end]", 9, 8);
     faulty("var v:=0;output x:sum;[emit x(v)||nothing;v:=1]", 22, 8);
     faulty("var v:=0;[[v:=1]||[v:=2]]", 9, 8);
+    faulty("var v:=0;[[nothing||if v=1 then nothing end]||v:=1]", 9, 8);
+    faulty("var v:=0;[nothing||[[nothing||v:=1]||nothing;if 1=v then nothing end]]", 19, 8);
     faulty("var v:=0;[[v:=1||nothing]||[v:=2||v:=3]]", 9, 8);
     fine("var v:=0;var w:=0;[w:=v||if v=1 then nothing end]");
     fine("var v:=0;[v:=1;v:=v+1];[v:=2||nothing]");
@@ -738,6 +766,21 @@ public final class PromiseTest {
     wires(x, 0, 0, 1, 0, 1, 0);
     wires(x, 1, 0, 1, 0, 1, 0);
     wires(x, 2, 0, 0, 0, 0, 0);
+    x = run("input a;suspend pause when a end;trap t in pause end;pause");
+    beat(x, 1, 0, 1);
+    wires(x, 0, 1, 0, 0, 1, 0);
+    beat(x, 0, 0, 0);
+    wires(x, 0, 0, 1, 1, 0, 0);
+    wires(x, 2, 1, 0, 0, 1, 0);
+    beat(x, 1, 0, 1);
+    wires(x, 0, 0, 0, 0, 0, 0);
+    wires(x, 2, 0, 1, 1, 0, 0);
+    section = "promise 14, an if that cannot be worked is not so";
+    x = run("var v:=0;if 1/v=0 then pause else nothing end");
+    beat(x, 0, 2, 0);
+    wires(x, 0, 1, 0, 1, 0, 0);
+    wires(x, 1, 0, 0, 0, 0, 0);
+    wires(x, 2, 1, 0, 1, 0, 0);
     section = "promise 14, of a beat that failed";
     x = run("var v:=0;pause;v:=1/v");
     beat(x, 0, 0, 0);
