@@ -1,10 +1,7 @@
 import java.util.Random;
 
 /** For each promise of the document: ordinary calls, the edges that it names, and wrong inputs, with answers worked by hand. */
-public final class PromiseTest {
-  private static int wrong = 0;
-  private static String section = "";
-
+public final class PromiseTest extends Bench {
   public static void main(String[] args) {
     promise1();
     promise2and3();
@@ -29,76 +26,7 @@ public final class PromiseTest {
     promise24to26();
     promise27and28();
     anyArguments();
-    System.out.println(wrong == 0 ? "all promises hold" : wrong + " answers are not as due");
-    if (wrong != 0) System.exit(1);
-  }
-
-  private static void due(String call, int got, int want) {
-    if (got != want) {
-      wrong++;
-      System.out.println(section + ": " + call + " answered " + got + ", due is " + want);
-    }
-  }
-
-  private static final int MIN = Integer.MIN_VALUE, MAX = Integer.MAX_VALUE;
-
-  /** Feeds a text and cuts the blanks behind it off again. */
-  private static void write(BeatMill x, String text) {
-    int had = x.count(2);
-    for (int at = 0; at < text.length(); at += 20) {
-      int[] five = new int[5];
-      for (int i = 0; i < 20; i++) {
-        int b = at + i < text.length() ? text.charAt(at + i) : ' ';
-        five[i / 4] |= b << 24 - 8 * (i % 4);
-      }
-      x.feed(five[0], five[1], five[2], five[3], five[4]);
-    }
-    x.end(had + text.length());
-  }
-
-  private static BeatMill made(String text) {
-    BeatMill x = new BeatMill();
-    write(x, text);
-    int answer = x.compile();
-    if (answer != 0) {
-      wrong++;
-      System.out.println(section + ": [" + text + "] does not compile: " + answer + ", fault " + x.fault());
-    }
-    return x;
-  }
-
-  /** An object with one module and one governor of it. */
-  private static BeatMill run(String text) {
-    BeatMill x = made(text);
-    due("governor(0) of " + text, x.governor(0), 0);
-    return x;
-  }
-
-  private static void faulty(String text, int place, int fault) {
-    BeatMill x = new BeatMill();
-    write(x, text);
-    due("compile() of [" + text + "]", x.compile(), -10 - place);
-    due("fault() of [" + text + "]", x.fault(), fault);
-    due("count(0) behind it", x.count(0), 0);
-    due("count(2) behind it", x.count(2), 0);
-  }
-
-  private static void fine(String text) {
-    BeatMill x = made(text);
-    due("fault() of [" + text + "]", x.fault(), 0);
-  }
-
-  private static String times(int n, String text) { return text.repeat(n); }
-
-  /** A beat with some inputs given (bit by bit, with their numbers, 0 if none), its answer and the signals present. */
-  private static void beat(BeatMill x, int inputs, int answer, int shown, int... numbers) {
-    for (int i = 0; i < 4; i++) {
-      if ((inputs >> i & 1) == 1) x.give(0, i, true, i < numbers.length ? numbers[i] : 0);
-    }
-    due("beat(0)", x.beat(0), answer);
-    int seen = 0;
-    for (int s = 0; s < 16; s++) if (x.present(0, s) == 1) seen |= 1 << s;
-    due("signals present", seen, shown);
+    finish("all promises hold");
   }
 
   private static void promise1() {
@@ -699,16 +627,6 @@ public final class PromiseTest {
     due("v", x.variable(0, 0), 1);
   }
 
-  /** A first beat that fails, with the variable as it was. */
-  private static void failing(String text, int variable, int failure, int part) {
-    BeatMill x = run(text);
-    beat(x, 0, 2, 0);
-    due("FAILURE of " + text, x.told(0, 4), failure);
-    due("part of " + text, x.told(0, 5), part);
-    due("variable of " + text, x.variable(0, 0), variable);
-    due("beats of " + text, x.told(0, 0), 0);
-  }
-
   private static void promise11to13() {
     section = "promises 11 to 13";
     BeatMill x = run("input a:one;output x:sum;var v:=-999999;present a then emit x(?a*2) end;pause;pause");
@@ -787,14 +705,6 @@ public final class PromiseTest {
     beat(x, 0, 2, 0);
     wires(x, 0, 0, 1, 1, 0, 0);
     wires(x, 1, 1, 0, 1, 0, 0);
-  }
-
-  private static void wires(BeatMill x, int part, int... want) {
-    for (int what = 0; what < 5; what++) due("wire(0, " + part + ", " + what + ")", x.wire(0, part, what), want[what]);
-  }
-
-  private static void tolds(BeatMill x, int... want) {
-    for (int what = 0; what < 8; what++) due("told(0, " + what + ")", x.told(0, what), want[what]);
   }
 
   private static void promise15and16() {
