@@ -2263,7 +2263,8 @@ public final class BeatMill {
 
         void explore() {
             states = beyond ? 0 : 1;
-            for (int state = 0; state < states && !beyond; state++) {
+            // each STATE that comes is worked in its turn, up to the last that there may be
+            for (int state = 0; state < MOST_STATES && state < states && !beyond; state++) {
                 workState(state);
             }
             if (!beyond) {

@@ -460,6 +460,23 @@ public final class BeatBoundaryTest extends Bench {
       beat(x, 0, 0, 0);
       due("v", x.variable(0, 0), 0);
     });
+    edge("Terms 3: ?S, the latest, of each of sixteen signals", () -> {
+      StringBuilder text = new StringBuilder();
+      StringBuilder parts = new StringBuilder("emit sa(3)");
+      for (int i = 0; i < 16; i++) text.append("output s").append((char) ('a' + i)).append(":one;");
+      for (int i = 0; i < 15; i++) parts.append(";emit s").append((char) ('b' + i)).append("(?s").append((char) ('a' + i)).append("+2)");
+      BeatMill x = run(text.toString() + parts);
+      beat(x, 0, 1, 65535);
+      for (int s = 0; s < 16; s++) due("value(0, " + s + ")", x.value(0, s), 3 + 2 * s);
+    });
+    edge("Terms 3: the latest number of each of six variables", () -> {
+      BeatMill x = run("var a:=1;var b:=2;var c:=3;var d:=4;var e:=5;var f:=6;a:=f*2;b:=a+b;c:=b+c;d:=c+d;e:=d+e;f:=e+f;pause;f:=a");
+      beat(x, 0, 0, 0);
+      int[] want = {12, 14, 17, 21, 26, 32};
+      for (int v = 0; v < 6; v++) due("variable(0, " + v + ")", x.variable(0, v), want[v]);
+      beat(x, 0, 1, 0);
+      due("variable(0, 5)", x.variable(0, 5), 12);
+    });
     edge("Terms 3: ?S of an input that is given the one given, from the beat's begin on; the latest behind it", () -> {
       BeatMill x = run("input a:one;var v:=0;loop v:=?a;pause end");
       beat(x, 1, 0, 1, 5);
@@ -551,6 +568,14 @@ public final class BeatBoundaryTest extends Bench {
       wires(x, 3, 0, 0, 0, 0, 0);
       wires(x, 4, 1, 0, 1, 0, 0);
       beat(x, 0, 0, 0);
+    });
+    edge("Terms 3: an if fails by its own sums alone", () -> {
+      BeatMill x = run("input a;output x;var v:=0;loop if 1=1 then emit x end;present a then v:=1/0 end;pause end");
+      beat(x, 0, 0, 2);
+      beat(x, 1, 2, 0);
+      due("told(0, 5)", x.told(0, 5), 4);
+      x = run("output x;var v:=0;present pre x then v:=1/0 end;if 2=1+1 then emit x end");
+      beat(x, 0, 1, 1);
     });
     edge("Terms 3: ifs, whose sums are worked ahead: what a beat gives the variable is all one", () -> {
       BeatMill x = run("output x;var v:=1;v:=0;if 1/v=1 then emit x end;pause;v:=1;if 1/v=1 then emit x end");

@@ -72,6 +72,22 @@ public final class SearchBoundaryTest extends Bench {
       due("governor(0)", x.governor(0), 0);
       due("beat(0)", x.beat(0), 0);
     });
+    edge("Terms 4: 48 STATES with 32 MOVES each", () -> {
+      BeatMill x = made(FOUR + "output x;signal s;signal r;output z;pause;pause;if 1=1 then nothing end;" + RING);
+      due("search(0)", x.search(0), 48);
+      for (int move = 0; move < 32; move++) {
+        due("move(0, 46, " + move + ", 0)", x.move(0, 46, move, 0), 47);
+        due("move(0, 47, " + move + ", 0)", x.move(0, 47, move, 0), 3);
+        due("move(0, 47, " + move + ", 1)", x.move(0, 47, move, 1), 7 << 4 | move & 15);
+      }
+      due("classOf(0, 47)", x.classOf(0, 47), 47);
+      due("never z", x.never(0, 7), 1);
+      due("always x, s", x.always(0, 4, 5), 1);
+      due("always x, d", x.always(0, 4, 3), 0);
+      against(x, 47, 0);
+      due("always a, x", x.always(0, 0, 4), 0);
+      against(x, 0, 1);
+    });
     edge("Terms 4: what no MOVE leads to is no STATE", () -> {
       due("search, behind halt", made("halt;pause;pause").search(0), 2);
       due("search, all MOVES STUCK", made("output x;present x then emit x end;pause").search(0), 1);

@@ -315,7 +315,7 @@ public final class TextBoundaryTest extends Bench {
       faulty("trap t in trap u in trap t in nothing end end end", 25, 3);
       fine("trap t in nothing end;trap t in nothing end");
       fine("[trap t in nothing end||trap t in nothing end]");
-      fine("signal s;trap x in abort nothing when not pre s end end");
+      for (char letter = 'a'; letter <= 'z'; letter++) fine("signal sig;abort trap " + letter + " in exit " + letter + " end when sig end");
     });
     edge("Terms 1: 4 a NAME that is not told, or not what is wanted: in c a signal", () -> {
       faulty(TOLD + "await q", TOLD.length() + 6, 4);
@@ -342,6 +342,7 @@ public final class TextBoundaryTest extends Bench {
       faulty(TOLD + "trap t in exit a end", TOLD.length() + 15, 4);
       faulty(TOLD + "trap t in exit v end", TOLD.length() + 15, 4);
       fine("trap t in trap u in exit t;exit u end;exit t end");
+      for (char letter = 'a'; letter <= 'z'; letter++) faulty("signal sig;abort exit " + letter + " when sig end", 22, 4);
     });
     edge("Terms 1: 4 ahead of := and in a sum a variable", () -> {
       faulty(TOLD + "a:=1", TOLD.length(), 4);
@@ -521,6 +522,8 @@ public final class TextBoundaryTest extends Bench {
     edge("Terms 2: AT ONCE: exit its own; trap: 2 as 0, above 2 one less", () -> {
       fine("trap t in loop exit t end end");
       faulty("loop trap t in exit t end end", 0, 7);
+      faulty("loop trap t in nothing end end", 0, 7);
+      fine("loop trap t in pause end end");
       faulty("loop trap t in trap u in exit t end;pause end end", 0, 7);
       fine("loop trap t in trap u in exit u end;pause end end");
       fine("trap s in loop trap t in trap u in exit s end end end end");
@@ -580,10 +583,26 @@ public final class TextBoundaryTest extends Bench {
         faulty(two + "[" + use + "||v:=1]", two.length(), 8);
         faulty(two + "[nothing||" + use + "||nothing||nothing;v:=1||nothing]", two.length(), 8);
       }
+      faulty(two + "[[w:=v||nothing]||v:=1]", two.length(), 8);
+      faulty(two + "[w:=v;[nothing||nothing]||v:=1]", two.length(), 8);
+      faulty(two + "[[v:=1||nothing]||w:=v]", two.length(), 8);
+      faulty(two + "[v:=1;[nothing||nothing]||w:=v]", two.length(), 8);
       fine(two + "[w:=v||if v=1 then nothing end||emit y(v)]");
       fine(two + "[v:=v+1;v:=2||w:=w+1]");
       fine(two + "[v:=1];[nothing||v:=v+1]");
       fine(two + "v:=1;[nothing||w:=v];v:=2");
+    });
+    edge("Terms 1: 8 with each of six variables", () -> {
+      String six = "var a:=0;var b:=0;var c:=0;var d:=0;var e:=0;var f:=0;";
+      for (char one = 'a'; one <= 'f'; one++) {
+        for (char other = 'a'; other <= 'f'; other++) {
+          String[] texts = {"[" + one + ":=1||" + other + ":=2]", "[" + one + ":=1||if " + other + "=2 then nothing end]", "[if " + other + "=2 then nothing end||" + one + ":=1]"};
+          for (String text : texts) {
+            if (one == other) faulty(six + text, six.length(), 8);
+            else fine(six + text);
+          }
+        }
+      }
     });
     edge("Terms 1: behind all of these, at the first TOKEN of the part, the first in order of text", () -> {
       faulty("loop nothing end;#", 17, 1);
@@ -687,7 +706,55 @@ public final class TextBoundaryTest extends Bench {
     });
   }
 
+  /** The modules 0 of two objects tell the same, and governors of them do the same. */
+  private static void alike(String text, BeatMill one, BeatMill other) {
+    for (int what = 0; what < 8; what++) due("module(0, " + what + ") of " + text, one.module(0, what), other.module(0, what));
+    due("search(0) of " + text, one.search(0), other.search(0));
+    due("governor(0) of " + text, one.governor(0), other.governor(0));
+    for (int beats = 0; beats < 4; beats++) {
+      due("give of " + text, one.give(0, 0, beats % 2 == 1, 5), other.give(0, 0, beats % 2 == 1, 5));
+      due("beat(0) of " + text, one.beat(0), other.beat(0));
+      due("told(0, 1) of " + text, one.told(0, 1), other.told(0, 1));
+      due("value(0, 1) of " + text, one.value(0, 1), other.value(0, 1));
+      for (int i = 0; i < 10; i++) {
+        due("paused(0, " + i + ") of " + text, one.paused(0, i), other.paused(0, i));
+        for (int what = 0; what < 5; what++) due("wire(0, " + i + ", " + what + ") of " + text, one.wire(0, i, what), other.wire(0, i, what));
+      }
+    }
+  }
+
   private static void modules() {
+    edge("Terms 1: as many parts and PAUSES, as deep, as may be", () -> {
+      String nest = times(14, "abort ") + "pause" + times(14, " when immediate a end");
+      BeatMill x = run("input a;output x;" + nest + ";" + times(9, "abort ") + "emit x" + times(9, " when immediate a end") + times(5, ";[nothing]") + ";nothing");
+      due("parts", x.module(0, 4), 36);
+      due("PAUSES", x.module(0, 5), 24);
+      beat(x, 0, 0, 0);
+      due("SET", x.told(0, 1), 15);
+      beat(x, 1, 1, 1);
+      wires(x, 35, 1, 0, 1, 0, 0);
+      x = run("input a;output x;" + nest + ";" + times(9, "abort ") + "emit x" + times(9, " when immediate a end") + times(5, ";[nothing]") + ";nothing");
+      beat(x, 0, 0, 0);
+      beat(x, 0, 1, 2);
+      wires(x, 35, 1, 0, 1, 0, 0);
+    });
+    edge("Terms 1: a text is read alike whatever was read before", () -> {
+      String[] texts = {"input a;output x;var v:=1;[loop await a;emit x end||suspend halt when a end||trap t in pause;exit t end]", "pause;pause",
+        "loop nothing end", "input b:one;output y:sum;every b do emit y(?b) end", times(30, "pause;"), "output x;trap t in [exit t||weak abort sustain x when pre x end] end",
+        "nothing;nothing;nothing;[pause||pause||nothing;halt]", "input a;present a then if 1=1 then pause else nothing end else halt end"};
+      BeatMill much = new BeatMill();
+      for (int round = 0; round < 2; round++) {
+        for (String text : texts) {
+          BeatMill fresh = new BeatMill();
+          write(fresh, text);
+          write(much, text);
+          due("compile() of " + text, much.compile(), fresh.compile());
+          due("fault() of " + text, much.fault(), fresh.fault());
+          alike(text, much, fresh);
+          much.clear();
+        }
+      }
+    });
     edge("Promise 6: BAD", () -> {
       BeatMill x = made("nothing");
       for (int m : new int[] {-1, 1, 4, 32, MIN, MAX}) due("module(" + m + ", 0)", x.module(m, 0), BeatMill.BAD);
