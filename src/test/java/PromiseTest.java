@@ -1027,11 +1027,11 @@ public final class PromiseTest extends Bench {
     section = "any arguments";
     int[] odd = {MIN, MIN + 1, -1000000001, -33, -2, -1, 0, 1, 2, 3, 4, 5, 7, 8, 15, 16, 31, 32, 40, 47, 48, 800, 1000000001, MAX - 1, MAX};
     String[] texts = {"input a:sum;output x:one;var v:=1;loop v:=v+?a;emit x(v);pause end", "halt", "input a;every a do await a end", ""};
-    for (int seed = 0; seed < 300; seed++) {
+    for (int seed = 0; seed < 500; seed++) {
       Random random = new Random(seed);
       BeatMill x = new BeatMill();
       try {
-        for (int i = 0; i < 500; i++) {
+        for (int i = 0; i < 300; i++) {
           int[] n = new int[4];
           for (int k = 0; k < 4; k++) n[k] = random.nextInt(3) == 0 ? odd[random.nextInt(odd.length)] : random.nextInt(3);
           anyCall(x, random, n, texts[random.nextInt(4)]);

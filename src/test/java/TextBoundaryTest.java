@@ -742,17 +742,19 @@ public final class TextBoundaryTest extends Bench {
       String[] texts = {"input a;output x;var v:=1;[loop await a;emit x end||suspend halt when a end||trap t in pause;exit t end]", "pause;pause",
         "loop nothing end", "input b:one;output y:sum;every b do emit y(?b) end", times(30, "pause;"), "output x;trap t in [exit t||weak abort sustain x when pre x end] end",
         "nothing;nothing;nothing;[pause||pause||nothing;halt]", "input a;present a then if 1=1 then pause else nothing end else halt end"};
-      BeatMill much = new BeatMill();
-      for (int round = 0; round < 2; round++) {
-        for (String text : texts) {
-          BeatMill fresh = new BeatMill();
-          write(fresh, text);
-          write(much, text);
-          due("compile() of " + text, much.compile(), fresh.compile());
-          due("fault() of " + text, much.fault(), fresh.fault());
-          alike(text, much, fresh);
-          much.clear();
+      for (String text : texts) {
+        BeatMill fresh = new BeatMill();
+        BeatMill worn = new BeatMill();
+        for (String other : texts) {
+          write(worn, other);
+          worn.compile();
+          worn.clear();
         }
+        write(fresh, text);
+        write(worn, text);
+        due("compile() of " + text, worn.compile(), fresh.compile());
+        due("fault() of " + text, worn.fault(), fresh.fault());
+        alike(text, worn, fresh);
       }
     });
     edge("Promise 6: BAD", () -> {
