@@ -226,6 +226,17 @@ public final class BeatBoundaryTest extends Bench {
       wires(x, 4, 1, 0, 0, 0, 1);
       wires(x, 5, 1, 0, 0, 0, 0);
     });
+    edge("Terms 2: loop: K0 = 0, others its", () -> {
+      BeatMill x = run("trap t in loop trap u in exit t end end end");
+      beat(x, 0, 1, 0);
+      wires(x, 0, 1, 0, 1, 0, 0);
+      wires(x, 1, 1, 0, 0, 0, 1);
+      wires(x, 2, 1, 0, 0, 0, 1);
+      wires(x, 3, 1, 0, 0, 0, 0);
+      x = run("input a;trap t in loop [await a||trap u in exit t end] end end");
+      beat(x, 0, 1, 0);
+      wires(x, 1, 1, 0, 0, 0, 1);
+    });
     edge("Terms 2: CODES 2 + d: fifteen traps, the outermost and the innermost left", () -> {
       for (int left = 0; left < 15; left += 7) {
         StringBuilder text = new StringBuilder("output x;output y;signal s;");

@@ -10,6 +10,12 @@ public final class TextBoundaryTest extends Bench {
     {"<if v=1 then ", "pause", " end"}, {"<[", "pause", "]"}, {"<[pause||", "pause", "]"},
     {"await <(", "a", ")"}, {"await <not ", "a", ""}, {"emit y<(", "1", ")"}, {"v:=<(", "1", ")"}, {"v:=<-", "1", ""}};
   private static final String TOLD = "input a;output x;output y:sum;var v:=0;";
+  private static final String[] SIGNS = "; , : ( ) [ ] || := ? + - * / % = != < <= > >=".split(" ");
+  /** What may begin a part, a c, a sum; a NAME is told by zz, a NUMBER by 7. */
+  private static final String PART = " nothing pause halt emit sustain loop present await abort weak suspend every trap exit if [ zz ";
+  private static final String CONDITION = " not zz pre ( ";
+  private static final String SUM = " 7 zz ? - ( ";
+  private static final String WORKING = " + - * / % ";
 
   public static void main(String[] args) {
     tape();
@@ -244,6 +250,76 @@ public final class TextBoundaryTest extends Bench {
       wanting(v, "if v = 1 then nothing else nothing end", -1);
       wanting(v, "[ v := 1 - v / 2 % 3 ]", -1);
     });
+    edge("Terms 1: the grammar: at each place just what it tells can stand", () -> {
+      stands("", PART + "input output signal var");
+      for (String told : new String[] {"input", "output", "signal"}) {
+        stands(told, "zz");
+        stands(told + " n", ": ;");
+        stands(told + " n :", "one sum most");
+        stands(told + " n : most", ";");
+        stands(told + " n ;", PART + "input output signal var");
+      }
+      stands("var", "zz");
+      stands("var n", ":=");
+      stands("var n :=", "- 7");
+      stands("var n := -", "7");
+      stands("var n := 1", ";");
+      stands("var n := 1 ;", PART + "input output signal var");
+    });
+    edge("Terms 1: the grammar: seq, and the parts that hold no others", () -> {
+      for (String part : new String[] {"nothing", "pause", "halt", "sustain x", "loop pause end", "[ pause ]", "emit y ( 1 )"}) stands(TOLD + part, ";");
+      stands("nothing ;", PART);
+      stands("emit", "zz");
+      stands(TOLD + "emit y (", SUM);
+      stands(TOLD + "emit y ( 1", WORKING + ")");
+      stands("sustain", "zz");
+      stands("exit", "zz");
+      stands("trap t in exit t", "; end");
+      stands(TOLD + "await", CONDITION + "immediate");
+      stands(TOLD + "await immediate", CONDITION);
+      stands(TOLD + "await a", "and or ;");
+      stands(TOLD + "v", ":=");
+      stands(TOLD + "v :=", SUM);
+      stands(TOLD + "v := v", WORKING + ";");
+    });
+    edge("Terms 1: the grammar: parts that hold others", () -> {
+      for (String head : new String[] {"loop", "[", "[ pause ||", "present a then", "present a then halt else", "abort", "weak abort", "suspend", "every a do", "trap t in", "if 1 = 1 then", "if 1 = 1 then halt else"}) {
+        stands(TOLD + head, PART);
+        stands(TOLD + head + " nothing ;", PART);
+      }
+      for (String open : new String[] {"loop", "every a do", "trap t in", "present a then halt else", "if 1 = 1 then halt else"}) stands(TOLD + open + " pause", "; end");
+      for (String open : new String[] {"present a then", "if 1 = 1 then"}) stands(TOLD + open + " pause", "; else end");
+      for (String open : new String[] {"[", "[ pause ||"}) stands(TOLD + open + " pause", "; || ]");
+      for (String open : new String[] {"abort", "weak abort", "suspend"}) {
+        stands(TOLD + open + " pause", "; when");
+        stands(TOLD + open + " pause when", CONDITION + (open.equals("suspend") ? "" : "immediate"));
+        stands(TOLD + open + " pause when a", "and or end");
+      }
+      stands("weak", "abort");
+      stands(TOLD + "abort pause when immediate", CONDITION);
+      stands(TOLD + "weak abort pause when immediate", CONDITION);
+      stands(TOLD + "present", CONDITION);
+      stands(TOLD + "present a", "and or then");
+      stands(TOLD + "every", CONDITION + "immediate");
+      stands(TOLD + "every immediate", CONDITION);
+      stands(TOLD + "every a", "and or do");
+      stands("trap", "zz");
+      stands("trap t", "in");
+      stands("if", SUM);
+      stands("if 1", WORKING + "= != < <= > >=");
+      for (String relation : "= != < <= > >=".split(" ")) stands("if 1 " + relation, SUM);
+      stands("if 1 = 1", WORKING + "then");
+    });
+    edge("Terms 1: the grammar: c and sum", () -> {
+      for (String head : new String[] {"not", "not not", "(", "a and", "a or", "a and not", "( a or"}) stands(TOLD + "await " + head, CONDITION);
+      stands(TOLD + "await pre", "zz");
+      for (String head : new String[] {"not a", "pre a", "a and a", "a or pre a", "( a )"}) stands(TOLD + "await " + head, "and or ;");
+      for (String head : new String[] {"( a", "( a or not a", "( ( a )"}) stands(TOLD + "await " + head, "and or )");
+      for (String head : new String[] {"-", "- -", "(", "1 +", "1 -", "1 *", "1 /", "1 %", "( 1 +"}) stands(TOLD + "v := " + head, SUM);
+      stands(TOLD + "v := ?", "zz");
+      for (String head : new String[] {"1", "- 1", "? y", "( 1 )", "1 + 1", "1 * v"}) stands(TOLD + "v := " + head, WORKING + ";");
+      for (String head : new String[] {"( 1", "( 1 + v", "( ( 1 )", "( - ? y"}) stands(TOLD + "v := " + head, WORKING + ")");
+    });
     edge("Terms 1: module: { told } seq: none told, nothing but told, told behind a part", () -> {
       fine("nothing");
       faulty("", 0, 2);
@@ -294,6 +370,23 @@ public final class TextBoundaryTest extends Bench {
       }
       before.append(tokens[i]).append(' ');
     }
+  }
+
+  /** Of all TOKENS just those told can stand behind a text. */
+  private static void stands(String ahead, String those) {
+    for (String sign : SIGNS) standsIf(ahead, sign, (" " + those + " ").contains(" " + sign + " "));
+    for (String key : KEYS) standsIf(ahead, key, (" " + those + " ").contains(" " + key + " "));
+    standsIf(ahead, "zz", (" " + those + " ").contains(" zz "));
+    standsIf(ahead, "7", (" " + those + " ").contains(" 7 "));
+  }
+
+  private static void standsIf(String ahead, String token, boolean can) {
+    BeatMill x = new BeatMill();
+    String before = ahead.isEmpty() ? "" : ahead + " ";
+    write(x, before + token);
+    int answer = x.compile();
+    boolean refused = answer == -10 - before.length() && x.fault() == 2;
+    due("whether [" + token + "] cannot stand behind [" + ahead + "]", refused ? 1 : 0, can ? 0 : 1);
   }
 
   private static void names() {
