@@ -528,6 +528,10 @@ public final class BeatBoundaryTest extends Bench {
       beat(x, 0, 0, 3);
       beat(x, 0, 1, 3);
     });
+    edge("Terms 3: the sum of an emit is worked ahead of what the signal comes to: its FAILURE, not TWICE", () -> {
+      failing("output y:one;var v:=0;emit y(1);emit y(1/v)", 0, 1, 1);
+      failing("output y:one;var v:=0;emit y(1);emit y(999999*999999)", 0, 2, 1);
+    });
     edge("Terms 3: TWICE of one that failed does not count in the next beat", () -> {
       BeatMill x = run("input a;output y:one;var v:=0;loop emit y(1);present a then v:=1/0 end;pause end");
       beat(x, 1, 2, 0);
